@@ -227,16 +227,17 @@ public final class PegLaws {
             return NONE;
         }
         int laws = now.lawBits(told);
-        int best = 0;
-        int least = Integer.MAX_VALUE;
-        for (int set = 0; set <= laws; set++) {
+        int best = laws;
+        int least = told.worthOf(laws);
+        // Downwards, so that of equal ones the least set is the last to be found.
+        for (int set = laws; set >= 0; set--) {
             int worth = told.worthOf(set);
-            if ((set & ~laws) == 0 && worth < least && told.clashesAmong(laws & ~set) == 0) {
+            if ((set & ~laws) == 0 && worth <= least && told.clashesAmong(laws & ~set) == 0) {
                 best = set;
                 least = worth;
             }
         }
-        return what == 0 ? told.worthOf(best) : best;
+        return what == 0 ? least : best;
     }
 
     public int fill(int hours, int cloth) {
@@ -936,12 +937,12 @@ public final class PegLaws {
                 fail(AGAIN);
             }
             line.names[cloth] = name;
-            goOn();
+            next();
             if (sort != WORD || word < PLAIN || word > WOOL) {
                 fail(MISPLACED);
             }
             line.kinds[cloth] = word - PLAIN;
-            goOn();
+            next();
             line.widths[cloth] = readMeasure(WIDE, 1, 20);
             line.weights[cloth] = readMeasure(WEIGHT, 0, 20);
             line.worths[cloth] = readMeasure(WORTH, 0, 99);
@@ -952,7 +953,7 @@ public final class PegLaws {
             if (sort != WORD || word != measure) {
                 fail(MISPLACED);
             }
-            goOn();
+            next();
             return readNumber(least, most);
         }
 
@@ -966,7 +967,7 @@ public final class PegLaws {
             if (fault == 0 && (one == other || line.clashTold(one, other))) {
                 fail(AGAIN);
             }
-            goOn();
+            next();
             if (fault == 0) {
                 line.addClash(one, other);
             }
@@ -1015,7 +1016,7 @@ public final class PegLaws {
                     row[many] = value;
                     many++;
                 }
-                goOn();
+                next();
             }
             return many;
         }
@@ -1053,7 +1054,7 @@ public final class PegLaws {
                     fail(TOO_MANY);
                 }
                 bits |= 1 << peg;
-                goOn();
+                next();
             }
             return bits;
         }
@@ -1124,7 +1125,7 @@ public final class PegLaws {
 
         private int readNumber(int least, int most) {
             int value = numberHere(least, most);
-            goOn();
+            next();
             return value;
         }
 
@@ -1139,7 +1140,7 @@ public final class PegLaws {
 
         private int readNamed(Line line) {
             int cloth = namedHere(line);
-            goOn();
+            next();
             return cloth;
         }
 
@@ -1163,59 +1164,52 @@ public final class PegLaws {
             if (sort != sign) {
                 fail(MISPLACED);
             }
-            goOn();
+            next();
         }
 
-        /** Only the first FAULT counts: behind it nothing is read any more. */
+        /** Only the first FAULT counts: behind it no token is read any more. */
         private void fail(int kind) {
             if (fault == 0) {
                 fault = kind + 16 * place;
             }
         }
 
-        private void goOn() {
-            if (fault == 0) {
-                next();
-            }
-        }
-
         private void next() {
+            if (fault != 0) {
+                return;
+            }
             place = behind;
             for (int i = behind; i < length && (tape[i] == 10 || tape[i] == ' '); i++) {
                 place = i + 1;
             }
-            if (place >= length) {
-                behind = length;
-                sort = END;
-            } else if (isLetter(tape[place])) {
-                nextWord();
-            } else if (isDigit(tape[place])) {
-                nextNumber();
-            } else {
-                behind = place + 1;
-                sort = SIGNS.indexOf(tape[place]) >= 0 ? tape[place] : BROKEN;
-            }
-        }
-
-        private void nextWord() {
+            int letters = 0;
             name = 0;
-            behind = place;
             for (int i = place; i < length && isLetter(tape[i]); i++) {
-                name = withLetter(name, tape[i]);
-                behind = i + 1;
+                name = 32 * name + (tape[i] - 'a' + 1);
+                letters++;
             }
-            word = knownWord(name);
-            sort = behind - place <= MOST_LETTERS ? WORD : BROKEN;
-        }
-
-        private void nextNumber() {
+            int digits = 0;
             number = 0;
-            behind = place;
             for (int i = place; i < length && isDigit(tape[i]); i++) {
                 number = 10 * number + (tape[i] - '0');
-                behind = i + 1;
+                digits++;
             }
-            sort = behind - place <= MOST_DIGITS ? NUMBER : BROKEN;
+            behind = Math.min(length, place + Math.max(1, Math.max(letters, digits)));
+            word = letters > 0 ? knownWord(name) : NONE;
+            sort = sortOf(letters, digits);
+        }
+
+        private int sortOf(int letters, int digits) {
+            if (place >= length) {
+                return END;
+            }
+            if (letters > 0) {
+                return letters <= MOST_LETTERS ? WORD : BROKEN;
+            }
+            if (digits > 0) {
+                return digits <= MOST_DIGITS ? NUMBER : BROKEN;
+            }
+            return SIGNS.indexOf(tape[place]) >= 0 ? tape[place] : BROKEN;
         }
 
         private static int knownWord(long name) {
@@ -1224,7 +1218,7 @@ public final class PegLaws {
             for (int i = 0; i < WORDS.length(); i++) {
                 char sign = WORDS.charAt(i);
                 if (sign != ' ') {
-                    known = withLetter(known, sign);
+                    known = 32 * known + (sign - 'a' + 1);
                 } else if (known == name) {
                     return found;
                 } else {
@@ -1233,10 +1227,6 @@ public final class PegLaws {
                 }
             }
             return NONE;
-        }
-
-        private static long withLetter(long name, char letter) {
-            return 32 * name + (letter - 'a' + 1);
         }
 
         private static boolean isLetter(char sign) {
