@@ -535,7 +535,11 @@ public final class PromiseTest {
         x.hang(0, 3);
         // 17, 15, 13, 11, 9 hold (9 is no more than 9), 7 does not.
         due("in the sixth", 6, x.holds(0));
-        x = told(cloth("p", "plain", 1, 0, 5) + "pegs 9 9 ; pulls wind = 9 * 99 ; winds 0 ;");
+        // Worn to 16, 14, 12, 10, 8 by five of the winds; the sixth is the 40th hour's, or the 41st one's.
+        x = told(cloth("p", "plain", 1, 0, 5) + "pegs 9 9 ; pulls wind + 1 ; winds 0 0 0 0 9 0 0 ;");
+        x.hang(0, 3);
+        due("in the 40th", 40, x.holds(0));
+        x = told(cloth("p", "plain", 1, 0, 5) + "pegs 9 9 ; pulls wind + 1 ; winds 0 0 0 0 0 9 0 ;");
         x.hang(0, 3);
         due("not within 40", -1, x.holds(0));
     }
@@ -725,6 +729,12 @@ public final class PromiseTest {
         due("wool", 1, x.ask(1));
         due("feel", true, x.feel(1, 1, 2));
         due("place 1", 2, x.starts());
+        // Behind 8 hours wet by 1, then by 0 if there is a wind of 9: by place 0 in the 12th, by 4 to 11 too early.
+        x = told(cloth("a", "plain", 1, 0, 4) + "winds 0 0 0 0 0 0 0 0 0 0 0 9 ; dries 1 < mass or wind = 9 ;");
+        due("behind 12 it is 8 of 12, behind 11 9", 12, x.ask(0));
+        due("feel", true, x.feel(0, 11, 1));
+        due("places 0, 4 to 11", 4081, x.starts());
+        due("12 hours", 12, x.ask(0));
         x = told(cloth("a", "plain", 1, 0, 4));
         due("no winds told", 1, x.starts());
         due("feel", true, x.feel(0, 3, 0));
@@ -844,6 +854,16 @@ public final class PromiseTest {
         due("back twice", true, x.mark(3, true));
         due("hour", 1, x.count(4));
         due("another", false, x.mark(0, true));
+        x = told(cloth("a", "plain", 1, 0, 4) + cloth("w", "wool", 1, 0, 4) + "winds 1 2 1 3 ; dries wind + mass - 9 ;");
+        x.mark(0, false);
+        x.feel(0, 1, 7);
+        due("by what was felt", 2, x.starts());
+        x.mark(1, false);
+        x.mark(0, true);
+        due("nothing felt", 15, x.starts());
+        x.feel(1, 2, 5);
+        x.mark(1, true);
+        due("by what was felt first", 2, x.starts());
     }
 
     private static void counting() {
