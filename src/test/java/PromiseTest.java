@@ -705,7 +705,7 @@ public final class PromiseTest {
         due("others", false, x.feel(0, 0, -1));
         due("others", false, x.feel(0, 0, 10));
         due("all", 15, x.starts());
-        // Behind 1: 8 7 8 6; behind 2: 6 6 5 5; behind 3: 5 3 4 4: 2 alike each, the first is 1.
+        // Behind 1: 8 7 8 6; behind 2: 6 6 5 5; behind 3: 5 3 4 3: 2 alike each, the first is 1.
         due("ask", 1, x.ask(0));
         due("feel", true, x.feel(0, 1, 8));
         due("places 0 and 2", 5, x.starts());
