@@ -48,9 +48,8 @@ public final class PegLaws {
     private static final int NOT = 20;
     private static final int AND = 21;
     private static final int OR = 22;
+    // The facts: mass and size stand behind wind, and nothing behind them.
     private static final int WIND = 23;
-    private static final int MASS = 24;
-    private static final int SIZE = 25;
 
     private final Reader reader = new Reader();
     private final State now = new State();
@@ -1441,7 +1440,6 @@ public final class PegLaws {
     /** FILL: for each set of CLOTHS, which PEGS together can hold it; then the first row of the most worth. */
     private static final class Filler {
         private static final int SETS = 64;
-        private static final int MASKS = 256;
         private static final int WORDS_A_SET = 4;
         private static final int MOST_CHOICES = 70;
 
@@ -1450,7 +1448,7 @@ public final class PegLaws {
         private final int[] widths = new int[SETS];
         private final int[] worths = new int[SETS];
         private final boolean[] canHang = new boolean[SETS];
-        // Bit by bit, a set's MASKS behind one another: which PEGS it can hang by.
+        // Of each set 256 bits, one for each set of PEGS: whether it can hang by just these.
         private final long[] holding = new long[SETS * WORDS_A_SET];
         private final int[] row = new int[MOST_CLOTHS];
         private int sets;
@@ -1609,7 +1607,7 @@ public final class PegLaws {
             for (int i = 0; i < runs.length; i++) {
                 hanging += runs[i];
             }
-            return (int) (hanging * 1000000L / all);
+            return all < 1 ? 0 : (int) (hanging * 1000000L / all);
         }
 
         private void goOn(Line line, State state, int cloth, int from, int wind, int odds) {

@@ -388,6 +388,11 @@ public final class DoingEdgesTest extends Edges {
         // What could not be is nothing to undo.
         told(cloth("p", "plain", 6, 3, 5) + "pegs 1 1 ;").calls("hang(0,7)=-1 take(0)=false wash(1)=-1 buy(0)=-1 count(11)=0 undo()=false")
                 .calls("hang(0,3)=14 hang(0,3)=-1 wash(0)=-1 buy(10)=-1 take(1)=false count(11)=1 undo()=true undo()=false cloth(0,3)=0");
+        // Nor does it take the place of the first of 16, one by one.
+        for (String not : "hang(0,7)=-1 take(1)=false wash(9)=-1 buy(0)=-1".split(" ")) {
+            told(cloth("p", "plain", 6, 3, 5) + "pegs 9 9 ; pulls 0 ;").calls("wash(0)=0 hang(0,3)=14").times(14, "hour()=0").calls("count(11)=16").refused(not);
+            told(cloth("p", "plain", 6, 3, 5) + "pegs 9 9 ; pulls 0 ;").times(40, "hour()=0").refused(not + " " + not + " " + not);
+        }
         // Nor are FELT, MARKS that are laid, a DAY, a LINE with a FAULT.
         told(cloth("p", "plain", 6, 3, 5)).calls("feel(0,0,9)=true mark(0,false)=true count(11)=0 undo()=false count(10)=1 hour()=0")
                 .put("oh").calls("line()=1").put("hour ;").calls("day()=0 count(11)=1 mark(1,false)=true undo()=true count(9)=1 count(4)=0 undo()=false");

@@ -168,6 +168,15 @@ public final class PlanningEdgesTest extends Edges {
         told(plain("b", 18, 1) + plain("a", 2, 1) + "pegs 1 9 1 9 ; pulls size ;").calls("fill(1,-1)=2 fill(1,0)=10 fill(1,1)=5");
         told(plain("a", 2, 1) + plain("b", 10, 1) + "pegs 9 1 9 1 ; pulls size ;").calls("fill(1,-1)=2 fill(1,0)=3 fill(1,1)=12");
         told(plain("a", 10, 1) + plain("b", 10, 1) + "pegs 1 1 9 9 ; pulls size ;").calls("fill(1,-1)=2 fill(1,0)=5 fill(1,1)=10");
+        // All six of them and all eight PEGS: the sheet by the last 4 of 8, or none.
+        String many = plain("a", 1, 1) + plain("b", 1, 1) + cloth("s", "sheet", 1, 0, 9) + plain("c", 1, 1) + plain("d", 1, 1) + plain("e", 1, 1);
+        told(many + EIGHT_PEGS + p).calls("fill(6,-1)=11 fill(6,0)=3 fill(6,1)=12 fill(6,2)=240 fill(6,3)=0 fill(6,4)=0 fill(6,5)=0 fill(6,6)=-2");
+        told(many.replace("worth 9", "worth 1") + EIGHT_PEGS + p).calls("fill(1,-1)=4 fill(1,0)=3 fill(1,1)=12 fill(1,2)=0 fill(1,3)=48 fill(1,4)=192 fill(1,5)=0");
+        told(many.replace("worth 9", "worth 2") + EIGHT_PEGS + p).calls("fill(1,-1)=4 fill(1,0)=3 fill(1,1)=12 fill(1,2)=240 fill(1,3)=0");
+        told(many + EIGHT_PEGS + "pulls 99 ;").calls("fill(1,-1)=0 fill(1,0)=0 fill(1,5)=0");
+        // By PEGS as they are now, each time anew: 0 and 1 are worn to 1 and 1 by the hour, and hold 4 no more.
+        told(plain("a", 4, 1) + plain("b", 4, 1) + "pegs 2 2 2 2 ; pulls size ;")
+                .calls("fill(1,-1)=2 fill(1,0)=3 fill(1,1)=12 hang(0,3)=16 hour()=0 fill(1,-1)=1 fill(1,0)=12 fill(1,1)=0 undo()=true fill(1,-1)=2 fill(1,1)=12");
         // A sheet by the least 4 of 8 that hold 20.
         told(cloth("s", "sheet", 20, 0, 1) + "pegs 1 1 1 1 5 5 5 5 ; pulls size ;").calls("fill(1,-1)=1 fill(1,0)=240");
         told(cloth("s", "sheet", 16, 0, 1) + "pegs 1 1 1 1 5 5 5 5 ; pulls size ;").calls("fill(1,-1)=1 fill(1,0)=113");
@@ -198,6 +207,10 @@ public final class PlanningEdgesTest extends Edges {
         sentence(20, "each hour is gusty by told odds: its wind is 3 more then");
         told(plain("p", 1, 0) + "pegs 9 9 ; pulls ( wind = 12 ) * 99 ; winds 9 8 ; gusts 5 ;").calls("hang(0,3)=19 odds(0,1)=500000 odds(0,2)=500000 odds(0,3)=250000")
                 .calls("hour()=0 odds(0,1)=1000000 odds(0,2)=500000");
+        // From now on, one behind another: 1, then 2, then 0 again; a gust lets it fall in the hours of 1.
+        Run winds = told(plain("p", 1, 0) + "pegs 9 9 ; pulls ( wind = 4 ) * 99 ; winds 0 1 2 ; gusts 5 ;").calls("hang(0,3)=19");
+        winds.calls("odds(0,1)=1000000 odds(0,2)=500000 odds(0,4)=500000 odds(0,5)=250000 odds(0,8)=125000 hour()=0")
+                .calls("odds(0,1)=500000 odds(0,3)=500000 odds(0,4)=250000 hour()=0 odds(0,2)=1000000 odds(0,3)=500000");
         // Dried by a gust to 6, it falls in the next hour.
         told(plain("p", 1, 0) + "pegs 9 9 ; pulls ( mass < 7 ) * 99 ; winds 0 ; gusts 4 ;")
                 .calls("wash(0)=0 hang(0,3)=19 odds(0,1)=1000000 odds(0,2)=600000 odds(0,3)=360000");
@@ -370,6 +383,8 @@ public final class PlanningEdgesTest extends Edges {
         // The stronger of the two is the one to be kept: 9 and 3 hold 12, 9 and 2 do not.
         told(plain("a", 1, 4) + "pegs 3 2 ; pulls 12 ;").calls("hang(0,3)=19 change(1)=1");
         told(plain("a", 1, 4) + "pegs 3 2 ; pulls 11 ;").calls("hang(0,3)=19 change(1)=0");
+        // By the winds from now on, without gusts: 5 in the third hour alone.
+        told(plain("a", 1, 4) + "pegs 2 2 ; pulls 5 * ( wind = 3 ) ; winds 2 4 3 ; gusts 10 ;").calls("hang(0,3)=19 change(2)=-1 change(3)=0 hour()=0 change(1)=-1 change(2)=0");
         // A PEG that would be worn out: 8 wears 15, not 16.
         told(plain("a", 1, 4) + "pegs 1 6 ; pulls 7 ;").calls("hang(0,3)=19 laws()=1 change(1)=0 change(20)=0");
         sentence(25, "CHANGE; NONE: others, none.");
@@ -443,10 +458,28 @@ public final class PlanningEdgesTest extends Edges {
         // By gusts in each hour: 9 falls, then there are no 2 PEGS that are not split.
         decadesBy(FALL_BY_GUSTS + "gusts 10 ;", 9999, 9, 0, 9, 9);
         decadesBy(FALL_BY_GUSTS + "gusts 10 ;", 9999, 60, 0, 9, 9);
+        // In other hours the wind is as told, and so is what dries.
+        decadesBy("pulls 99 * not ( wind = 3 ) ; gusts 0 ;", 9999, 60, 50, 0, 27);
+        decadesBy("pulls 99 * not ( wind = 6 ) ; gusts 10 ;", 9999, 60, 50, 0, 27);
+        decadesBy("pulls 99 * not ( wind = 3 or wind = 6 ) ; gusts 5 ;", 9999, 60, 50, 0, 27);
+        // By the SEED 1 it is not taken in for 4 hours; the DRAWS below 10 are 3 7 2 7. It falls when two gusts have dried it to 7.
+        String dried = plain("a", 1, 4) + "pegs 9 9 9 ; pulls 99 * ( mass = 7 ) ; dries wind = 6 ; gusts ";
+        told(dried + "4 ;").calls("wash(0)=0 hang(0,3)=19 decades(1,3,1)=0 decades(1,4,1)=1 decades(1,4,0)=3 decades(1,4,2)=25");
+        told(dried + "3 ;").calls("wash(0)=0 hang(0,3)=19 decades(1,4,1)=0 decades(1,4,0)=4");
+        told(dried + "7 ;").calls("wash(0)=0 hang(0,3)=19 decades(1,3,1)=0 decades(1,4,1)=1");
+        told(dried + "8 ;").calls("wash(0)=0 hang(0,3)=19 decades(1,2,1)=0 decades(1,3,1)=1");
         sentence(27, "one that is in is HUNG by the first 2 (a sheet 4) free PEGS that are not split, if that can be (no DRAW more)");
         told(cloth("s", "sheet", 1, 0, 4) + "pegs 9 9 9 ; pulls 0 ;").calls("decades(5,60,0)=0 decades(5,60,2)=27");
         told(cloth("s", "sheet", 1, 0, 4) + "pegs 9 9 9 9 ; pulls 0 ;").calls("decades(0,60,0)=48 decades(0,1,0)=1");
         told(plain("a", 1, 4) + "pegs 9 ; pulls 0 ;").calls("decades(5,60,0)=0");
+        // Too few hold none at all, so none falls either.
+        told(plain("a", 1, 4) + "pegs 9 ; pulls 99 ;").calls("decades(5,60,1)=0 decades(5,60,2)=9");
+        told(cloth("s", "sheet", 1, 0, 4) + "pegs 9 9 9 ; pulls 99 ;").calls("decades(5,60,1)=0 decades(5,60,2)=27");
+        // The first two, 1 and 1, are split by the first fall, the next two by the second one; the last one is alone.
+        told(plain("a", 1, 4) + "pegs 1 1 1 1 9 ; pulls 99 ;").calls("decades(5,1,2)=11 decades(5,2,1)=2 decades(5,2,2)=9 decades(5,60,1)=2 decades(5,60,2)=9");
+        // PEG 0 is split, PEG 2 is held: it is hung by 1 and 3.
+        told(plain("a", 1, 4) + plain("b", 1, 4) + "pegs 1 9 9 9 ; pulls 99 * ( size = 1 ) * ( wind = 9 ) ; winds 9 0 ;")
+                .calls("hang(0,1)=19 hour()=1 peg(0,0)=0 hang(0,4)=19 decades(4,1,0)=1 decades(4,1,1)=0");
         told(plain("a", 4, 4) + "pegs 9 9 ; pulls 0 ; yards 3 ;").calls("decades(5,60,0)=0");
         told(plain("a", 4, 4) + "pegs 9 9 ; pulls 0 ; yards 4 ;").calls("decades(0,60,0)=48");
         sentence(27, "if there are CLOTHS, a DRAW below them");
@@ -498,6 +531,14 @@ public final class PlanningEdgesTest extends Edges {
                 .calls("mark(0,true)=true count(4)=2 count(11)=0 mark(1,true)=false mark(2,true)=false");
         told(plain("a", 1, 4)).times(8, "feel(0,0,8)=true").calls("mark(2,false)=true")
                 .put(plain("a", 1, 4)).calls("line()=0 mark(2,true)=false mark(2,false)=true feel(0,0,9)=true mark(2,true)=true count(10)=0 starts()=1");
+        // What is FELT: nothing on 0, on 1 that it was wet by 7 behind an hour, which it is by place 1 alone.
+        told(plain("a", 1, 4) + cloth("w", "wool", 1, 0, 4) + "winds 1 2 1 3 ; dries wind + mass - 9 ;")
+                .calls("mark(0,false)=true feel(0,1,7)=true starts()=2 mark(1,false)=true mark(0,true)=true starts()=15 feel(1,2,5)=true starts()=0")
+                .calls("mark(2,false)=true mark(1,true)=true count(10)=1 starts()=2 mark(2,true)=true starts()=0 mark(1,true)=true feel(0,1,7)=true starts()=2");
+        // A LINE takes all four away, one with a FAULT none.
+        told(plain("a", 1, 4)).calls("mark(0,false)=true mark(1,false)=true mark(2,false)=true mark(3,false)=true").put("oh")
+                .calls("line()=1 mark(0,true)=true mark(1,true)=true mark(2,true)=true mark(3,true)=true line()=0")
+                .calls("mark(0,true)=false mark(1,true)=false mark(2,true)=false mark(3,true)=false");
         // The DAY and the TAPE are not on it.
         told(plain("a", 1, 4)).calls("mark(1,false)=true").put("hour ;").calls("day()=0").put("abc").calls("mark(1,true)=true count(9)=1 count(12)=3");
         sentence(28, "A MARK is laid (back: gone back to): true; false: none such, nothing is on it (back).");

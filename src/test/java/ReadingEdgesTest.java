@@ -716,6 +716,9 @@ public final class ReadingEdgesTest extends Edges {
         lineFault(2, TWO + "clash @xx aa ;");
         lineFault(2, TWO + "clash aa @xx ;");
         lineFault(2, TWO + "clash aa @wind ;");
+        lineFault(2, SIX + "clash @xx aa ;");
+        lineFault(2, SIX + "clash ff @gg ;");
+        told(SIX).put("take gg ;").calls("day()=82").put("take ff ;").calls("day()=0");
         dayFault(2, "hang @xx 1 ;");
         dayFault(2, "take @xx ;");
         dayFault(2, "wash @wind ;");
@@ -782,6 +785,18 @@ public final class ReadingEdgesTest extends Edges {
                 .calls("judged(0)=-1 judged(1)=-1 judged(2)=0");
         busy().calls("line()=0 count(0)=0 count(1)=0 count(2)=20 count(4)=0 count(8)=0 count(9)=0 count(10)=0 count(11)=0")
                 .calls("cloth(0,0)=-1 free()=0 undo()=false mark(3,true)=false");
+        // Nothing is left of the LINES ahead of it, be there three of them, with a FAULT or without.
+        String rich = TWO + cloth("cc", "plain", 1, 1, 1) + "clash aa bb ; clash aa cc ; pegs 9 9 ; winds 7 8 ; yards 9 ; gusts 10 ; pulls 50 ; dries 1 ; ";
+        String bare = cloth("cc", "plain", 4, 1, 1) + cloth("aa", "plain", 1, 1, 1);
+        for (String ahead : new String[] {rich, rich + "oh"}) {
+            Run run = made();
+            for (int i = 0; i < 3; i++) {
+                run.put(ahead).calls("line()=" + (ahead == rich ? 0 : 1 + 16 * rich.length())).put(bare + "clash cc aa ;")
+                        .calls("line()=0 count(0)=2 count(1)=0 count(2)=20 count(5)=3 count(8)=1 cloth(0,7)=6 cloth(1,7)=3 starts()=1")
+                        .calls("buy(9)=0 wash(0)=0 hang(0,1)=17 odds(0,1)=1000000 hour()=0 cloth(0,1)=6").put("take bb ;").calls("day()=82")
+                        .put(bare + "clash aa bb").calls("line()=" + (2 + 16 * (bare.length() + 9))).calls("line()=0 count(0)=0 count(8)=0 clashes()=0");
+            }
+        }
         // Stains and grips of hours are gone with the LINE.
         told(cloth("a", "plain", 1, 0, 4) + "pegs 3 3 ; pulls 99 ;").calls("hang(0,3)=19 hour()=1 cloth(0,2)=1 peg(0,0)=2")
                 .put(cloth("a", "plain", 1, 0, 4) + "pegs 3 3 ; pulls 99 ;")
