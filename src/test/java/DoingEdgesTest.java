@@ -243,6 +243,14 @@ public final class DoingEdgesTest extends Edges {
         told(cloth("p", "plain", 1, 0, 0) + "pegs 9 9 ; pulls wind ; dries wind ;").calls("cloth(0,7)=3 wash(0)=0 hang(0,3)=19 hour()=0 cloth(0,1)=6");
     }
 
+    private static void hourNeverGusty() {
+        sentence(13, "its wind is the told one");
+        // However many gusts are told, an hour by hand, or of a DAY, has none.
+        Run run = told(cloth("p", "plain", 1, 0, 5) + "pegs 9 9 ; gusts 10 ; pulls ( wind = 6 ) * 99 ; dries ( wind = 6 ) * 9 ;");
+        run.calls("wash(0)=0 hang(0,3)=19").times(20, "hour()=0").calls("cloth(0,1)=9 count(5)=3");
+        run.put("hang p 0 1 ; hour ; hour ;").calls("day()=0 judged(1)=-1 judged(2)=5");
+    }
+
     private static void falls(String kind, String pegs, int bits, String pulls, int falls) {
         told(cloth("x", kind, 1, 0, 0) + "pegs " + pegs + " ; pulls " + pulls + " ;")
                 .calls("hang(0," + bits + ")=19 hour()=" + falls + " cloth(0,2)=" + falls);
@@ -488,6 +496,7 @@ public final class DoingEdgesTest extends Edges {
         washOthers();
         buyOthers();
         hourWind();
+        hourNeverGusty();
         moreThanGrips();
         fallen();
         worn();

@@ -793,7 +793,9 @@ public final class ReadingEdgesTest extends Edges {
             for (int i = 0; i < 3; i++) {
                 run.put(ahead).calls("line()=" + (ahead == rich ? 0 : 1 + 16 * rich.length())).put(bare + "clash cc aa ;")
                         .calls("line()=0 count(0)=2 count(1)=0 count(2)=20 count(5)=3 count(8)=1 cloth(0,7)=6 cloth(1,7)=3 starts()=1")
-                        .calls("buy(9)=0 wash(0)=0 hang(0,1)=17 odds(0,1)=1000000 hour()=0 cloth(0,1)=6").put("take bb ;").calls("day()=82")
+                        // 6 is no more than 8; by a gust it would be 9.
+                        .calls("buy(8)=0 hang(0,1)=17 odds(0,1)=1000000 take(0)=true wash(0)=0 hang(0,1)=17 hour()=0 cloth(0,1)=6")
+                        .put("take bb ;").calls("day()=82")
                         .put(bare + "clash aa bb").calls("line()=" + (2 + 16 * (bare.length() + 9))).calls("line()=0 count(0)=0 count(8)=0 clashes()=0");
             }
         }
